@@ -293,6 +293,6 @@ public final class HallTest {
         check.fault(forty + "+(1);", 2, forty.length() + 1);
         check.fault(forty + " or not 1;", 2, forty.length() + 8);
         check.fault("pass (" + forty.substring(5) + ");", 2, forty.length());
-        check.due("units of brackets", Check.sitting("pass ((yes)+2)*not_".replace("*not_", "*3") + ";").about(10), 5);
+        check.due("units of brackets", Check.sitting("pass ((yes)+2)*3;").about(10), 5);
     }
 }
