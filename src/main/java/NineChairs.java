@@ -26,6 +26,8 @@ public final class NineChairs {
     private static final int KEPT_MINUTES = 200;
     private static final int PLAN_LIMIT = 40;
     private static final int FLOOR_LIMIT = 200;
+    private static final int TALKER_LIMIT = 3;
+    private static final int TALKER_STRONG = 15;
     private static final int BOX_LIMIT = 3;
 
     private final Tape tape = new Tape();
@@ -34,7 +36,6 @@ public final class NineChairs {
     private final Sitting[] boxes = new Sitting[BOX_LIMIT];
     private final boolean[] filled = new boolean[BOX_LIMIT];
     private final Planner planner;
-    private final Talk talk = new Talk();
     private final Book book = new Book();
     private Hall told = new Hall();
     private Hall spare = new Hall();
@@ -239,7 +240,7 @@ public final class NineChairs {
     }
 
     public int floor(int men) {
-        return talk.longest(now, men);
+        return now.floorTime(men);
     }
 
     public int could(int matter, int yes, int no, int what) {
@@ -1435,6 +1436,29 @@ public final class NineChairs {
             return voters() & hall.dislikes[matter] & ~hall.boundMen(matter, dueDeals());
         }
 
+        // -- the floor
+
+        /**
+         * Who has sat a MINUTE is less TIRED than he is strong, and a speaker is so again as soon as
+         * he has: two take turns for ever, if one can begin. Only one alone comes to an end.
+         */
+        int floorTime(int men) {
+            int count = Integer.bitCount(men);
+            if (count < 1 || count > TALKER_LIMIT || (men & ~inHall()) != 0) {
+                return NONE;
+            }
+            int longest = 0;
+            for (int man = 0; man < hall.men.count; man++) {
+                if ((men >> man & 1) != 0) {
+                    if (hall.strong[man] > TALKER_STRONG) {
+                        return NONE;
+                    }
+                    longest = Math.max(longest, hall.strong[man] - tired[man]);
+                }
+            }
+            return count > 1 && longest > 0 ? FLOOR_LIMIT : longest;
+        }
+
         // -- what is kept
 
         int voteFact(int i, int what) {
@@ -1707,91 +1731,6 @@ public final class NineChairs {
                 }
             }
             return worth;
-        }
-    }
-
-    /**
-     * Looks how long some can hold the floor: MINUTE by MINUTE all the ways in which three can be
-     * TIRED, four bits a MAN, as a set of bits.
-     */
-    private static final class Talk {
-        static final int TALKER_LIMIT = 3;
-        static final int STRONG_LIMIT = 15;
-        static final int WORDS = 64;
-
-        private final int[] strong = new int[TALKER_LIMIT];
-        private final long[] even = new long[WORDS];
-        private final long[] odd = new long[WORDS];
-        private int count;
-
-        int longest(Sitting sitting, int men) {
-            if (men <= 0 || (men & ~sitting.inHall()) != 0
-                    || Integer.bitCount(men) > TALKER_LIMIT) {
-                return NONE;
-            }
-            int start = 0;
-            count = 0;
-            for (int man = 0; man < MAN_LIMIT; man++) {
-                if ((men >> man & 1) != 0 && count < TALKER_LIMIT) {
-                    if (sitting.hall.strong[man] > STRONG_LIMIT) {
-                        return NONE;
-                    }
-                    start |= sitting.tired[man] << 4 * count;
-                    strong[count] = sitting.hall.strong[man];
-                    count++;
-                }
-            }
-            Arrays.fill(even, 0);
-            mark(even, start);
-            for (int minute = 0; minute < FLOOR_LIMIT; minute++) {
-                boolean goesOn = minute % 2 == 0 ? step(even, odd) : step(odd, even);
-                if (!goesOn) {
-                    return minute;
-                }
-            }
-            return FLOOR_LIMIT;
-        }
-
-        private static void mark(long[] set, int state) {
-            int i = state >> 6;
-            if (i >= 0 && i < set.length) {
-                set[i] |= 1L << (state & 63);
-            }
-        }
-
-        private boolean step(long[] now, long[] next) {
-            Arrays.fill(next, 0);
-            boolean any = false;
-            for (int i = 0; i < now.length; i++) {
-                long left = now[i];
-                for (int bit = 0; bit < 64 && left != 0; bit++) {
-                    if ((left & 1) != 0) {
-                        any |= speakOn(i * 64 + bit, next);
-                    }
-                    left >>>= 1;
-                }
-            }
-            return any;
-        }
-
-        private boolean speakOn(int state, long[] next) {
-            boolean any = false;
-            for (int speaker = 0; speaker < count; speaker++) {
-                if ((state >> 4 * speaker & 15) < strong[speaker]) {
-                    mark(next, after(state, speaker));
-                    any = true;
-                }
-            }
-            return any;
-        }
-
-        private int after(int state, int speaker) {
-            int to = 0;
-            for (int i = 0; i < count; i++) {
-                int tired = state >> 4 * i & 15;
-                to |= (i == speaker ? tired + 1 : Math.max(tired - 2, 0)) << 4 * i;
-            }
-            return to;
         }
     }
 
