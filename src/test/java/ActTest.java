@@ -175,6 +175,15 @@ public final class ActTest {
             check.due("stay(200)", x.stay(200), 200 * i);
         }
         check.due("stay(199)", x.stay(199), 9999);
+        x.image(0);
+        check.due("rise(0), the last MINUTE", x.rise(0), 10000);
+        x.back(0);
+        check.due("enter(1), the last MINUTE", x.enter(1), 10000);
+        x.back(0);
+        x.crack(0, true);
+        x.crack(0, false);
+        check.due("sit(0, 0), the last MINUTE", x.sit(0, 0), 10000);
+        x.back(0);
         check.due("stay(2)", x.stay(2), -1);
         check.due("stay(1)", x.stay(1), 10000);
         check.due("stay(1)", x.stay(1), -1);

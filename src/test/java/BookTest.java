@@ -8,6 +8,7 @@ public final class BookTest {
     public static void main(String[] args) {
         entries();
         untelling();
+        entriesOfTheHallBefore();
         time();
         judging();
         images();
@@ -43,6 +44,23 @@ public final class BookTest {
         check.due("untell(0) again", x.untell(0), false);
         check.due("it has its number yet", x.entry(0, 0, 1), 1);
         check.due("ENTRIES", x.about(7), 2);
+    }
+
+    private static void entriesOfTheHallBefore() {
+        NineChairs x = Check.sitting(TEXT);
+        x.entry(0, 0, 1);
+        x.entry(0, 2, 1);
+        Check.feed(x, TEXT);
+        x.hall();
+        check.due("untell(0) of none", x.untell(0), false);
+        x.speak(2, 0);
+        x.vote(0);
+        for (int what = 0; what < 2; what++) {
+            check.due("judge(" + what + ", 0) of none", x.judge(what, 0), 0);
+        }
+        check.due("judge(2, 0) of none", x.judge(2, 0), -1);
+        check.due("entry(0, 0, 0)", x.entry(0, 0, 0), 0);
+        check.due("judge(0, 0)", x.judge(0, 0), 0);
     }
 
     private static void time() {
@@ -141,11 +159,16 @@ public final class BookTest {
         check.due("the TIME stays", x.about(8), 4);
         check.due("rise(0)", x.rise(0), 4);
         check.due("sat(1, 4), another way", x.sat(1, 4), 0);
+        check.due("vote(0), another way", x.vote(0), 0);
+        check.due("voted(0, 0), another way", x.voted(0, 0), 5);
+        check.due("image(0)", x.image(0), 5);
         check.due("back(2)", x.back(2), 36);
         int[] again = facts(x);
         for (int i = 0; i < later.length; i++) {
             check.due("fact " + i + " as it was kept", again[i], later[i]);
         }
+        check.due("back(0)", x.back(0), 5);
+        check.due("voted(0, 0)", x.voted(0, 0), 5);
         check.due("back(1) a second time", x.back(1), 3);
         check.due("image(2) anew", x.image(2), 3);
         x.stay(5);

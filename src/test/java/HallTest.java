@@ -149,6 +149,7 @@ public final class HallTest {
         check.fault("nap 0005;", 0, -1);
         check.fault("nap 00005;", 1, 4);
         check.fault("nap 5a", 1, 4);
+        check.fault("nap 5z", 1, 4);
         check.fault("pass 9999;", 0, -1);
         check.fault("pass 12345;", 1, 5);
         // The first by its place: what comes behind it does not count.

@@ -1,4 +1,5 @@
 import java.util.ArrayList;
+import java.util.Arrays;
 import java.util.List;
 import java.util.Random;
 
@@ -14,6 +15,7 @@ public final class ModelTest {
     private final Model[] boxes = new Model[3];
     private final List<int[]> entries = new ArrayList<>();
     private int time;
+    private boolean rich;
     private int units;
     private int wishes;
 
@@ -22,27 +24,66 @@ public final class ModelTest {
     }
 
     public static void main(String[] args) {
-        int runs = args.length > 0 ? Integer.parseInt(args[0]) : 400;
+        int runs = args.length > 0 ? Integer.parseInt(args[0]) : 80;
         int first = args.length > 1 ? Integer.parseInt(args[1]) : 1;
         for (int seed = first; seed < first + runs; seed++) {
-            new ModelTest(seed).run(seed % 4 == 0);
+            ModelTest test = new ModelTest(seed);
+            for (int i = 0; i < 4; i++) {
+                test.run(seed % 4 == 0);
+                test.runPlans();
+            }
         }
         check.end();
     }
 
     // ---- a HALL
 
-    private void run(boolean plans) {
-        makeHall(plans ? 3 + random.nextInt(2) : 6, plans ? 2 + random.nextInt(2) : 4);
+    private void begin() {
+        if (random.nextBoolean()) {
+            // What was read of a text with a FAULT must not be left over.
+            Check.feed(x, "man z strong 7 door;" + text + "pass 1;;");
+            due("hall() with a fault", x.hall(), -1);
+        }
+        text.setLength(0);
+        calls.setLength(0);
+        model = new Model();
+        Arrays.fill(boxes, null);
+        entries.clear();
+        units = 0;
+        wishes = 0;
+    }
+
+    private void read() {
         Check.feed(x, text.toString());
         due("hall()", x.hall(), model.men.size());
+    }
+
+    /** A HALL in which DEALS count, and few ACTS before its PLANS. */
+    private void runPlans() {
+        begin();
+        rich = true;
+        makeHall(6, 4);
+        rich = false;
+        read();
+        for (int i = random.nextInt(8); i > 0; i--) {
+            act();
+        }
+        for (int t = random.nextInt(3); t <= 9; t += 1 + random.nextInt(3)) {
+            plan(t);
+        }
+    }
+
+    private void run(boolean plans) {
+        begin();
+        makeHall(plans ? 3 + random.nextInt(2) : 6, plans ? 2 + random.nextInt(2) : 4);
+        read();
         due("about(3)", x.about(3), wishes);
         due("about(4)", x.about(4), model.deals.size());
         due("about(10)", x.about(10), units);
         for (int i = 0; i < 60; i++) {
             // PLANS are of most weight while the MATTERS live.
             if (plans && (i < 10 || random.nextInt(6) == 0)) {
-                plan();
+                plan(random.nextInt(3) == 0 ? random.nextInt(43) - 1 : random.nextInt(9));
             }
             act();
             ask();
@@ -50,7 +91,7 @@ public final class ModelTest {
     }
 
     private void makeHall(int mostMen, int mostMatters) {
-        int chairs = random.nextInt(7);
+        int chairs = rich ? 1 + random.nextInt(3) : random.nextInt(7);
         for (int i = 0; i < chairs; i++) {
             Model.Chair c = new Model.Chair();
             c.holds = 1 + random.nextInt(2);
@@ -58,7 +99,7 @@ public final class ModelTest {
             model.chairs.add(c);
             put("chair c" + (char) ('a' + i) + " holds " + c.holds + (c.stool ? " stool;" : ";"));
         }
-        int men = 1 + random.nextInt(mostMen);
+        int men = rich ? 4 + random.nextInt(3) : 1 + random.nextInt(mostMen);
         for (int i = 0; i < men; i++) {
             Model.Man m = new Model.Man();
             m.strong = 1 + random.nextInt(random.nextBoolean() ? 30 : 6);
@@ -66,7 +107,7 @@ public final class ModelTest {
             model.men.add(m);
             put("man m" + (char) ('a' + i) + " strong " + m.strong + (m.where == -2 ? " door;" : ";"));
         }
-        model.matters = 1 + random.nextInt(mostMatters);
+        model.matters = rich ? 2 + random.nextInt(3) : 1 + random.nextInt(mostMatters);
         for (int i = 0; i < model.matters; i++) {
             model.dies[i] = 1 + random.nextInt(random.nextInt(3) == 0 ? 12 : 70);
             put("matter t" + (char) ('a' + i) + " dies " + model.dies[i] + ";");
@@ -76,7 +117,7 @@ public final class ModelTest {
             model.nap = 1 + random.nextInt(9);
             put("nap " + model.nap + ";");
         }
-        if (random.nextInt(3) > 0) {
+        if (random.nextInt(3) > (rich ? 1 : 0)) {
             StringBuilder e = new StringBuilder();
             model.rule = makePart(0, 3, e);
             put("pass " + e + ";");
@@ -88,13 +129,15 @@ public final class ModelTest {
             for (int j = 0; j < model.matters; j++) {
                 if (random.nextInt(4) > 0) {
                     int v = random.nextInt(5) == 0 ? 0 : random.nextInt(30) - 12;
+                    v = rich && random.nextBoolean() ? random.nextInt(3) == 0 ? 40 : -1 : v;
                     model.wish[i][j] = v;
                     wishes++;
                     put("wish m" + (char) ('a' + i) + " t" + (char) ('a' + j) + " " + v + ";");
                 }
             }
         }
-        int deals = model.men.size() > 1 && model.matters > 1 ? random.nextInt(5) : 0;
+        int deals = rich ? 2 + random.nextInt(3) : random.nextInt(5);
+        deals = model.men.size() > 1 && model.matters > 1 ? deals : 0;
         for (int i = 0; i < deals; i++) {
             Model.Deal d = new Model.Deal();
             d.man = random.nextInt(model.men.size());
@@ -163,7 +206,7 @@ public final class ModelTest {
         int man = any(model.men.size());
         int chair = any(model.chairs.size());
         int matter = any(model.matters);
-        switch (random.nextInt(13)) {
+        switch (random.nextInt(15)) {
             case 0:
             case 1:
                 due("rise(" + man + ")", x.rise(man), model.rise(man));
@@ -201,7 +244,7 @@ public final class ModelTest {
     }
 
     private void note() {
-        switch (random.nextInt(5)) {
+        switch (random.nextInt(7)) {
             case 0:
             case 1:
                 int[] e = {random.nextInt(4), random.nextInt(model.men.size()), random.nextInt(3) - 1, time, -1};
@@ -297,8 +340,7 @@ public final class ModelTest {
         }
     }
 
-    private void plan() {
-        int t = random.nextInt(3) == 0 ? random.nextInt(43) - 1 : random.nextInt(9);
+    private void plan(int t) {
         due("best(" + t + ", 0)", x.best(t, 0), model.best(t, 0));
         due("best(" + t + ", 1)", x.best(t, 1), model.best(t, 1));
         due("fewest(" + t + ")", x.fewest(t), model.fewest(t));

@@ -69,6 +69,25 @@ public final class PlanTest {
         check.due("best(3, 1)", x.best(3, 1), 3);
         x.speak(1, 1);
         check.due("best(2, 0), it is DUE", x.best(2, 0), 8);
+        // Two DEALS are needed, and a MATTER that is PASSED can't be spoken for.
+        NineChairs z = Check.sitting("chair c holds 2;man p strong 9;man q strong 9;man r strong 9;matter x dies 99;matter y dies 99;matter z dies 99;"
+                + "wish r z 9;deal p z for r x;deal q z for r y;pass yes=2;");
+        z.sit(0, 0);
+        z.sit(1, 0);
+        z.speak(2, 2);
+        check.due("best(2, 0)", z.best(2, 0), 0);
+        check.due("best(3, 0), by both DEALS", z.best(3, 0), 9);
+        z.speak(2, 1);
+        check.due("best(2, 0), by the other", z.best(2, 0), 9);
+        check.due("best(1, 0)", z.best(1, 0), 0);
+        NineChairs w = Check.sitting("chair c holds 2;man p strong 9;man q strong 9;man r strong 9;man s strong 9 door;matter x dies 99;matter y dies 99;"
+                + "wish r x 5;wish s y 3;deal p y for r x;");
+        w.speak(1, 0);
+        w.speak(1, 1);
+        w.sit(0, 0);
+        w.sit(2, 0);
+        check.due("best(4, 0)", w.best(4, 0), 5);
+        check.due("best(5, 0)", w.best(5, 0), 8);
         // A DEAL that is DUE can do harm: here one yes must not be.
         NineChairs y = Check.sitting("chair c holds 2;man p strong 9;man q strong 9;matter x dies 99;matter y dies 99;"
                 + "wish p x 4;wish p y 4;deal q x for p y;pass sits=2 and yes<2;");
