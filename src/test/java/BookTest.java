@@ -11,7 +11,9 @@ public final class BookTest {
         entriesOfTheHallBefore();
         time();
         judging();
+        judgingTheLast();
         images();
+        imagesOfVotes();
         about();
         check.end();
     }
@@ -115,6 +117,49 @@ public final class BookTest {
         check.due("the first", x.judge(2, 15), 4);
         x.untell(4);
         check.due("the first", x.judge(2, 15), 6);
+    }
+
+    private static void judgingTheLast() {
+        NineChairs x = Check.sitting("chair c holds 2;man p strong 9;man q strong 9;man r strong 9;matter x dies 9;wish q x 5;wish r x -5;");
+        x.speak(0, 0);
+        x.sit(1, 0);
+        x.sit(2, 0);
+        x.vote(0);
+        int[] truth = {0, 1, -1};
+        for (int man = 0; man < 3; man++) {
+            for (int said = -1; said <= 1; said++) {
+                int before = x.judge(0, 0);
+                x.entry(0, man, said);
+                check.due("entry(0, " + man + ", " + said + ") is FALSE", x.judge(0, 0) - before, said == truth[man] ? 0 : 1);
+            }
+        }
+        check.due("STOOD", x.judge(1, 0), 2);
+    }
+
+    private static void imagesOfVotes() {
+        NineChairs x = Check.sitting("man p strong 20;man q strong 20;matter w dies 99;matter x dies 99;matter y dies 99;matter z dies 99;");
+        for (int matter = 0; matter < 4; matter++) {
+            x.speak(0, matter);
+        }
+        x.image(0);
+        for (int matter = 0; matter < 4; matter++) {
+            x.vote(matter);
+        }
+        x.image(1);
+        x.back(0);
+        x.stay(1);
+        for (int matter = 3; matter >= 0; matter--) {
+            x.vote(matter);
+        }
+        check.due("voted(3, 1)", x.voted(3, 1), 0);
+        check.due("voted(3, 0)", x.voted(3, 0), 9);
+        x.back(1);
+        for (int i = 0; i < 4; i++) {
+            check.due("voted(" + i + ", 0)", x.voted(i, 0), 5 + i);
+            check.due("voted(" + i + ", 1)", x.voted(i, 1), i);
+            check.due("voted(" + i + ", 4)", x.voted(i, 4), 3);
+        }
+        check.due("VOTES", x.about(6), 4);
     }
 
     private static void images() {
