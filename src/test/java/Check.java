@@ -1,6 +1,12 @@
+import java.util.LinkedHashSet;
+import java.util.Set;
+
 /** What the tests share: feeding a text, and comparing answers. */
 final class Check {
     private final String title;
+    private final Set<String> sentences = new LinkedHashSet<>();
+    private final Set<String> broken = new LinkedHashSet<>();
+    private String sentence = "";
     private int calls;
     private int wrong;
 
@@ -8,12 +14,28 @@ final class Check {
         this.title = title;
     }
 
+    /** A test of its own for these words of the document. */
+    void sentence(String words, Runnable test) {
+        sentence = words;
+        if (!sentences.add(words)) {
+            throw new IllegalStateException("two tests of «" + words + "»");
+        }
+        try {
+            test.run();
+        } catch (RuntimeException e) {
+            due("a call, which threw " + e, 1, 0);
+        }
+        sentence = "";
+    }
+
     void due(String call, long got, long want) {
         calls++;
         if (got != want) {
             wrong++;
+            broken.add(sentence);
             if (wrong <= 30) {
-                System.out.println(title + ": " + call + " answered " + got + ", due is " + want);
+                String of = sentence.isEmpty() ? "" : " «" + sentence + "»:";
+                System.out.println(title + ":" + of + " " + call + " answered " + got + ", due is " + want);
             }
         }
     }
@@ -22,8 +44,26 @@ final class Check {
         due(call, got ? 1 : 0, want ? 1 : 0);
     }
 
+    /** Every answer about the one must be that about the other: calls in between did nothing. */
+    void same(String when, NineChairs got, NineChairs want) {
+        String[] are = Facts.of(got);
+        String[] were = Facts.of(want);
+        for (int i = 0; i < are.length; i++) {
+            due(when + ", where " + were[i] + " was due, " + are[i], are[i].equals(were[i]), true);
+        }
+    }
+
+    Set<String> sentences() {
+        return sentences;
+    }
+
+    Set<String> broken() {
+        return broken;
+    }
+
     void end() {
-        System.out.println(title + ": " + calls + " answers, " + wrong + " wrong");
+        String of = sentences.isEmpty() ? "" : " of " + sentences.size() + " sentences";
+        System.out.println(title + ": " + calls + " answers" + of + ", " + wrong + " wrong");
         if (wrong != 0) {
             System.exit(1);
         }
@@ -46,8 +86,7 @@ final class Check {
         NineChairs x = new NineChairs();
         feed(x, text);
         if (x.hall() < 0) {
-            System.out.println("a text of the tests has a fault: " + text);
-            System.exit(1);
+            throw new IllegalStateException("a text of the tests has a fault: " + text);
         }
         return x;
     }
