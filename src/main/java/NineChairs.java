@@ -1497,7 +1497,8 @@ public final class NineChairs {
      * MATTER by which a DEAL for a GOAL becomes DUE, a LINK. What was done of these is a key: bits
      * of GOALS PASSED, of GOALS SPOKEN for, of LINKS that are DUE, from high to low. For each key
      * one long holds all sets of sitters (a set of six MEN is a number below 64) there can be with
-     * it. To be somewhere sooner is never worse, so what was reached stays reached.
+     * it. To be somewhere sooner is never worse, so what was reached stays reached, and a MINUTE
+     * in which nothing more is reached is the last that counts: later ones allow no more than it.
      */
     private static final class Planner {
         /** For each MAN the sets of sitters he is not in. */
@@ -1527,6 +1528,7 @@ public final class NineChairs {
         private int here;
         private long fitting;
         private int most;
+        private boolean grows;
         int soonest;
 
         Planner(Hall hall) {
@@ -1552,7 +1554,9 @@ public final class NineChairs {
                 reach[key] = 0;
             }
             reach[startKey(sitting)] = 1L << seated & fitting;
-            for (int done = 0; done < minutes && most < hoped; done++) {
+            grows = true;
+            for (int done = 0; done < minutes && most < hoped && grows; done++) {
+                grows = false;
                 // A step leads to the same key or a higher one, which has had its turn.
                 for (int key = keys - 1; key >= 0; key--) {
                     if (reach[key] != 0) {
@@ -1681,12 +1685,19 @@ public final class NineChairs {
                     moved |= stands << (1 << man) | (sets ^ stands) >>> (1 << man);
                 }
             }
-            reach[key] = moved & fitting;
+            add(key, moved & fitting);
             for (int matter = 0; matter < hall.matters.count; matter++) {
                 if (done < lasts[matter]) {
                     speakStep(key, sets, matter);
                     voteStep(key, sets, matter, done);
                 }
+            }
+        }
+
+        private void add(int key, long sets) {
+            if ((sets & ~reach[key]) != 0) {
+                reach[key] |= sets;
+                grows = true;
             }
         }
 
@@ -1699,7 +1710,7 @@ public final class NineChairs {
             for (int man = 0; man < MAN_LIMIT; man++) {
                 int to = spoken | linksBy[man * MATTER_LIMIT + matter];
                 if (to != key && (here >> man & 1) != 0) {
-                    reach[to] |= sets & WITHOUT[man];
+                    add(to, sets & WITHOUT[man]);
                 }
             }
         }
@@ -1715,7 +1726,7 @@ public final class NineChairs {
                 return;
             }
             int to = key | passedBit(goal);
-            reach[to] |= passes;
+            add(to, passes);
             int worth = worthOf(to);
             if (worth > most) {
                 most = worth;

@@ -8,8 +8,26 @@ public final class ActEdgeTest {
             "chair c holds 1;chair d holds 2 stool;man p strong 9;man q strong 9;man r strong 9;man s strong 9;man t strong 9 door;"
             + "matter x dies 99;matter y dies 99;wish p x 1;wish q x -1;wish t x 9;deal p y for q x;";
 
+    private static final String FULL =
+            "chair a holds 2 stool;chair b holds 2 stool;chair c holds 2 stool;chair d holds 2 stool;chair e holds 2 stool;chair f holds 2 stool;"
+            + "man a strong 9;man b strong 9;man c strong 9;man d strong 9;man e strong 9;man f strong 9 door;"
+            + "matter a dies 9;matter b dies 9;matter c dies 9;matter d dies 9;wish a a 9;wish b d 9;wish f d -9;"
+            + "deal a a for b b;deal a a for b b;deal a a for b b;deal a a for b b;nap 1;pass 1;";
+
     public static void main(String[] args) {
         run().end();
+    }
+
+    /** HALL behind others, of which there was more of each sort: none of that is left. */
+    private static NineChairs behindFull() {
+        NineChairs x = Check.sitting(FULL);
+        Check.feed(x, FULL);
+        x.hall();
+        x.sit(4, 5);
+        x.speak(0, 3);
+        Check.feed(x, HALL);
+        x.hall();
+        return x;
     }
 
     static Check run() {
@@ -171,7 +189,7 @@ public final class ActEdgeTest {
     }
 
     private static void refusedTakesNone() {
-        NineChairs x = Check.sitting(HALL);
+        NineChairs x = behindFull();
         x.rise(0);
         x.sit(4, 0);
         x.sit(0, 2);
@@ -638,6 +656,12 @@ public final class ActEdgeTest {
         check.due("KEPT yet", x.deal(0), 2);
         x.speak(1, 1);
         check.due("KEPT, though spoken for again", x.deal(0), 2);
+        NineChairs z = Check.sitting("chair c holds 1;man p strong 20;man q strong 20;matter x dies 99;matter y dies 99;deal p x for q y;pass 0;");
+        z.speak(1, 0);
+        z.speak(1, 1);
+        z.sit(0, 0);
+        check.due("LOST", z.vote(0), 0);
+        check.due("he said yes all the same", z.deal(0), 2);
         NineChairs y = Check.sitting("chair c holds 1;man p strong 20;man q strong 20;matter x dies 99;matter y dies 99;wish p x 9;deal p x for q y;");
         y.speak(0, 0);
         y.sit(0, 0);
@@ -663,12 +687,17 @@ public final class ActEdgeTest {
         z.found(1);
         z.vote(0);
         check.due("his stool was FOUND", z.deal(0), 3);
+        NineChairs w = Check.sitting("man p strong 20;man q strong 20;matter x dies 99;matter y dies 99;deal p x for q y;pass 1;");
+        w.speak(1, 0);
+        w.speak(1, 1);
+        check.due("PASSED", w.vote(0), 1);
+        check.due("without him", w.deal(0), 3);
     }
 
     // ---- promises of ACTS
 
     private static void riseRefused() {
-        NineChairs x = Check.sitting(HALL);
+        NineChairs x = behindFull();
         int[] none = {5, 6, -1, -2, MIN, MAX};
         for (int man : none) {
             check.due("rise(" + man + ")", x.rise(man), -1);
@@ -681,7 +710,7 @@ public final class ActEdgeTest {
     }
 
     private static void sitRefused() {
-        NineChairs x = Check.sitting(HALL);
+        NineChairs x = behindFull();
         int[] noMan = {5, 6, -1, -2, MIN, MAX};
         for (int man : noMan) {
             check.due("sit(" + man + ", 0)", x.sit(man, 0), -1);
@@ -696,7 +725,7 @@ public final class ActEdgeTest {
     }
 
     private static void speakRefused() {
-        NineChairs x = Check.sitting(HALL);
+        NineChairs x = behindFull();
         int[] noMan = {5, 6, -1, -2, MIN, MAX};
         for (int man : noMan) {
             check.due("speak(" + man + ", 0)", x.speak(man, 0), -1);
@@ -711,7 +740,7 @@ public final class ActEdgeTest {
     }
 
     private static void voteRefused() {
-        NineChairs x = Check.sitting(HALL);
+        NineChairs x = behindFull();
         int[] noMatter = {2, 4, -1, -2, MIN, MAX};
         for (int matter : noMatter) {
             check.due("vote(" + matter + ")", x.vote(matter), -1);
@@ -727,7 +756,7 @@ public final class ActEdgeTest {
     }
 
     private static void enterRefused() {
-        NineChairs x = Check.sitting(HALL);
+        NineChairs x = behindFull();
         int[] none = {0, 3, 5, 6, -1, -2, MIN, MAX};
         for (int man : none) {
             check.due("enter(" + man + ")", x.enter(man), -1);
@@ -748,7 +777,7 @@ public final class ActEdgeTest {
     }
 
     private static void stayRefused() {
-        NineChairs x = Check.sitting(HALL);
+        NineChairs x = behindFull();
         int[] none = {-1, 201, 1000, MIN, MAX};
         for (int minutes : none) {
             check.due("stay(" + minutes + ")", x.stay(minutes), -1);
@@ -815,7 +844,7 @@ public final class ActEdgeTest {
     }
 
     private static void crackRefused() {
-        NineChairs x = Check.sitting(HALL);
+        NineChairs x = behindFull();
         int[] none = {2, 6, -1, -2, 32, 33, MIN, MAX};
         for (int chair : none) {
             check.due("crack(" + chair + ", true)", x.crack(chair, true), -1);
@@ -832,7 +861,7 @@ public final class ActEdgeTest {
     }
 
     private static void foundRefused() {
-        NineChairs x = Check.sitting(HALL);
+        NineChairs x = behindFull();
         int[] none = {0, 2, 6, -1, -2, 33, MIN, MAX};
         for (int chair : none) {
             check.due("found(" + chair + ")", x.found(chair), false);
@@ -890,7 +919,7 @@ public final class ActEdgeTest {
     }
 
     private static void noSuchMan() {
-        NineChairs x = Check.sitting(HALL);
+        NineChairs x = behindFull();
         int[] none = {5, 6, -1, MIN, MAX};
         for (int man : none) {
             for (int what = 0; what < 6; what++) {
@@ -914,7 +943,7 @@ public final class ActEdgeTest {
     }
 
     private static void noSuchChair() {
-        NineChairs x = Check.sitting(HALL);
+        NineChairs x = behindFull();
         int[] none = {2, 6, -1, -2, MIN, MAX};
         for (int chair : none) {
             for (int what = 0; what < 3; what++) {
@@ -945,7 +974,7 @@ public final class ActEdgeTest {
     }
 
     private static void noSuchMatter() {
-        NineChairs x = Check.sitting(HALL);
+        NineChairs x = behindFull();
         int[] none = {2, 4, -1, MIN, MAX};
         for (int matter : none) {
             for (int what = 0; what < 4; what++) {
@@ -959,7 +988,7 @@ public final class ActEdgeTest {
     }
 
     private static void noSuchDeal() {
-        NineChairs x = Check.sitting(HALL);
+        NineChairs x = behindFull();
         check.due("the last one", x.deal(0), 0);
         int[] none = {1, 3, 4, -1, MIN, MAX};
         for (int deal : none) {
@@ -1034,7 +1063,7 @@ public final class ActEdgeTest {
     }
 
     private static void satRefused() {
-        NineChairs x = Check.sitting(HALL);
+        NineChairs x = behindFull();
         check.due("before any MINUTE", x.sat(0, 1), -1);
         x.stay(200);
         x.stay(200);

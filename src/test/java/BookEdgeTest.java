@@ -3,6 +3,9 @@ public final class BookEdgeTest {
     private static final Check check = new Check("BookEdgeTest");
     private static final int MIN = Integer.MIN_VALUE;
     private static final int MAX = Integer.MAX_VALUE;
+    private static final String TEXT =
+            "chair c holds 2;chair d holds 1 stool;man p strong 20;man q strong 20;man r strong 20;man s strong 20;man t strong 20 door;"
+            + "matter x dies 99;matter y dies 99;wish p x 1;wish q x -1;wish s x 1;wish t x -1;deal p y for q x;deal p y for s x;nap 9;pass yes=no;";
 
     public static void main(String[] args) {
         run().end();
@@ -41,14 +44,21 @@ public final class BookEdgeTest {
 
     /** p says yes and q no, r says nothing, s STANDS, t is at the door. */
     private static NineChairs voted() {
-        NineChairs x = Check.sitting("chair c holds 2;chair d holds 1 stool;man p strong 20;man q strong 20;man r strong 20;man s strong 20;man t strong 20 door;"
-                + "matter x dies 99;matter y dies 99;wish p x 1;wish q x -1;wish s x 1;wish t x -1;deal p y for q x;nap 9;pass yes=no;");
+        NineChairs x = begun();
+        goOn(x);
+        return x;
+    }
+
+    private static NineChairs begun() {
+        return Check.sitting(TEXT);
+    }
+
+    private static void goOn(NineChairs x) {
         x.sit(0, 0);
         x.sit(1, 0);
         x.sit(2, 1);
         x.speak(3, 0);
         x.vote(0);
-        return x;
     }
 
     // ---- what is kept
@@ -222,9 +232,12 @@ public final class BookEdgeTest {
         }
         NineChairs y = voted();
         y.entry(0, 3, 1);
-        y.enter(4);
+        y.rise(0);
         y.sit(3, 0);
-        check.due("as he STOOD then", y.judge(1, 0), 1);
+        check.due("he SITS now", y.man(3, 0), 1);
+        check.due("but he STOOD then", y.judge(1, 0), 1);
+        y.entry(0, 0, 1);
+        check.due("one STANDS now, who SAT then", y.judge(1, 0), 1);
     }
 
     private static void ofKeptVotes() {
@@ -262,7 +275,13 @@ public final class BookEdgeTest {
     }
 
     private static void untellRefused() {
-        NineChairs x = voted();
+        NineChairs x = begun();
+        x.entry(0, 0, 1);
+        x.entry(0, 0, 1);
+        x.entry(0, 0, 1);
+        Check.feed(x, TEXT);
+        x.hall();
+        goOn(x);
         check.due("none is there", x.untell(0), false);
         x.entry(0, 0, -1);
         x.entry(0, 0, -1);
@@ -361,20 +380,34 @@ public final class BookEdgeTest {
     }
 
     private static void imageKeepsAll() {
-        NineChairs x = voted();
+        NineChairs x = begun();
+        x.image(0);
+        goOn(x);
         x.image(1);
+        // Another way from the beginning on, by which every row has other numbers.
+        x.back(0);
+        check.same("back, where it began", x, begun());
+        x.sit(3, 1);
+        x.sit(2, 0);
+        x.enter(4);
+        x.speak(4, 1);
+        x.speak(0, 0);
+        x.vote(1);
+        x.vote(0);
+        x.stay(30);
+        x.crack(0, true);
+        x.found(1);
+        check.due("some SANK", x.about(12) > 0, true);
+        check.due("back(1)", x.back(1), 5);
+        check.same("back, where the one way ended", x, voted());
+        // The one way goes on, with the DEAL that is DUE.
+        check.due("the DEAL is DUE", x.deal(1), 1);
         x.rise(0);
         x.speak(0, 1);
-        x.found(1);
-        x.crack(0, true);
-        x.enter(4);
         x.vote(1);
-        x.stay(30);
+        check.due("the DEAL is BROKEN", x.deal(1), 3);
         x.back(1);
-        check.same("back", x, voted());
-        x.rise(2);
-        check.due("SANK, from then on", x.about(12), 0);
-        check.due("sat, from then on", x.sat(1, 6), 0);
+        check.same("back a second time", x, voted());
     }
 
     private static void backAgain() {

@@ -12,6 +12,9 @@ public final class HallEdgeTest {
     }
 
     static Check run() {
+        check.sentence("An object is used for at most 512 calls after it has been made", HallEdgeTest::lastCall);
+        check.sentence("NONE = -1: There is none", () -> constant("NONE", -1));
+        check.sentence("GAP = -1000000: No number is there", () -> constant("GAP", -1000000));
         check.sentence("A HALL is a text of at most 1,700 bytes", HallEdgeTest::longestText);
         check.sentence("(empty at first)", HallEdgeTest::emptyAtFirst);
         check.sentence("hall = {line}", HallEdgeTest::noLines);
@@ -90,6 +93,25 @@ public final class HallEdgeTest {
         return all.toString();
     }
 
+    // ---- the face
+
+    private static void lastCall() {
+        NineChairs x = new NineChairs();
+        for (int i = 1; i <= 511; i++) {
+            check.due("call " + i, x.stay(1), i);
+        }
+        check.due("call 512", x.about(5), 511);
+    }
+
+    /** By its name: a test compiled before would have the number of then. */
+    private static void constant(String name, int want) {
+        try {
+            check.due(name, NineChairs.class.getField(name).getInt(null), want);
+        } catch (ReflectiveOperationException e) {
+            throw new IllegalStateException(e);
+        }
+    }
+
     // ---- the text
 
     private static void longestText() {
@@ -127,6 +149,7 @@ public final class HallEdgeTest {
         good("man z strong 1;");
         good("man abcdefgh strong 1;");
         good("man zzzzzzzz strong 1;man zzzzzzzy strong 1;man zzzzzzz strong 1;");
+        good("man p strong 1;man ap strong 1;man pa strong 1;man pp strong 1;man app strong 1;man appppppp strong 1;");
         check.fault("man abcdefghi strong 1;", 1, 4);
         check.fault("man " + "z".repeat(1000) + " strong 1;", 1, 4);
         // The bytes beside a and z, and large letters, are no part of words.
@@ -391,6 +414,12 @@ public final class HallEdgeTest {
         good("pass (((((((1))))))) and (((((((1)))))));");
         good("pass " + "not ".repeat(7) + "1 and " + "not ".repeat(7) + "1;");
         check.fault("pass (((((((1))))))) and ((((((((1))))))));", 2, 32);
+        // As many of both as there can be: 40 units, each behind 7 nots; the first is 0, the others 1.
+        String nots = "not ".repeat(7);
+        NineChairs x = Check.sitting("man p strong 9;matter x dies 9;pass " + nots + "1" + (" and " + nots + "0").repeat(39) + ";");
+        check.due("units", x.about(10), 40);
+        x.speak(0, 0);
+        check.due("the longest rule", x.vote(0), 0);
     }
 
     private static void oneRelation() {
@@ -466,6 +495,8 @@ public final class HallEdgeTest {
         check.fault("matter x dies 1 door;", 2, 16);
         check.fault("man p strong -1;", 2, 13);
         check.fault("nap 1;;", 2, 6);
+        check.fault("nap 1 pass 1;", 2, 6);
+        check.fault("man p strong 1 man q strong 1;", 2, 15);
         check.fault("pass ;", 2, 5);
         check.fault("pass ();", 2, 6);
         check.fault("pass 1);", 2, 6);
@@ -511,6 +542,8 @@ public final class HallEdgeTest {
     private static void sameMatter() {
         check.fault(TWO + "deal p x for q x;", 3, N + 15);
         check.fault(TWO + "deal q y for p y;", 3, N + 15);
+        check.fault(TWO + "deal p y for q y;", 3, N + 15);
+        good(TWO + "deal p y for q x;");
         good("man x strong 1;man y strong 1;matter x dies 1;matter y dies 1;deal x x for y y;");
     }
 

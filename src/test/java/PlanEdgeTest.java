@@ -249,6 +249,7 @@ public final class PlanEdgeTest {
         bestOf(y, 40, 0, 0);
         NineChairs z = Check.sitting("man p strong 9;matter x dies 99;wish p x 1;pass 1;");
         bestOf(z, 40, 1, 2);
+        bestOf(z, 1, 0, 0);
     }
 
     private static void soonest() {
@@ -419,6 +420,7 @@ public final class PlanEdgeTest {
     private static void couldSeats() {
         NineChairs x = Check.sitting("chair c holds 1;chair d holds 2 stool;man p strong 9;man q strong 9;man r strong 9;matter x dies 99;wish p x 1;wish q x 1;wish r x 1;");
         sets(x, 3, 0, 1, 7, 7);
+        sets(x, 1, 0, 3, 0, 7);
         x.found(1);
         sets(x, 3, 0, 0, 0, 0);
         sets(x, 2, 0, 0, 0, 0);
