@@ -10,7 +10,7 @@ public final class ActEdgeTest {
 
     private static final String FULL =
             "chair a holds 2 stool;chair b holds 2 stool;chair c holds 2 stool;chair d holds 2 stool;chair e holds 2 stool;chair f holds 2 stool;"
-            + "man a strong 9;man b strong 9;man c strong 9;man d strong 9;man e strong 9;man f strong 9 door;"
+            + "man a strong 9 door;man b strong 9 door;man c strong 9;man d strong 9;man e strong 9;man f strong 9 door;"
             + "matter a dies 9;matter b dies 9;matter c dies 9;matter d dies 9;wish a a 9;wish b d 9;wish f d -9;"
             + "deal a a for b b;deal a a for b b;deal a a for b b;deal a a for b b;nap 1;pass 1;";
 
@@ -24,7 +24,7 @@ public final class ActEdgeTest {
         Check.feed(x, FULL);
         x.hall();
         x.sit(4, 5);
-        x.speak(0, 3);
+        x.speak(2, 3);
         Check.feed(x, HALL);
         x.hall();
         return x;
@@ -378,6 +378,13 @@ public final class ActEdgeTest {
         check.due("no more no", x.matter(0, 3), 0);
         check.due("but not for another MATTER", x.matter(1, 2), 0);
         check.due("and not of another MAN", x.sit(2, 0) > 0 ? x.matter(0, 2) : -1, 1);
+        NineChairs y = Check.sitting("chair c holds 1;man p strong 20;man q strong 20;man r strong 20;matter x dies 99;matter y dies 99;deal r y for p x;");
+        y.speak(0, 0);
+        y.sit(2, 0);
+        check.due("yes of the last MAN", y.matter(1, 2), 1);
+        y.rise(2);
+        y.sit(0, 0);
+        check.due("but not of the one who has spoken", y.matter(1, 2), 0);
     }
 
     private static void wishAboveBelow() {

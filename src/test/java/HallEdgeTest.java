@@ -4,6 +4,7 @@ public final class HallEdgeTest {
     private static final String TWO =
             "man p strong 1;man q strong 1;matter x dies 1;matter y dies 1;";
     private static final int N = TWO.length();
+    private static final String CHAIR = "chair c holds 2;";
     private static final String[] WORDS = {"chair", "holds", "stool", "man", "strong", "door", "matter",
         "dies", "wish", "deal", "for", "nap", "pass", "or", "and", "not", "yes", "no", "sits", "stands", "here"};
 
@@ -316,6 +317,19 @@ public final class HallEdgeTest {
         check.due("matter(0, 1)", x.matter(0, 1), 7);
         check.due("yes of one without a wish", x.matter(0, 2), 0);
         check.due("no of one without a wish", x.matter(0, 3), 0);
+        // Nothing is left of wishes in HALLS before.
+        String wishes = "wish p x 7;wish q x -7;";
+        NineChairs y = Check.sitting(CHAIR + TWO + wishes);
+        Check.feed(y, CHAIR + TWO + wishes);
+        y.hall();
+        Check.feed(y, CHAIR + TWO);
+        y.hall();
+        y.sit(0, 0);
+        check.due("matter(0, 1) in a new HALL", y.matter(0, 1), 0);
+        check.due("yes in a new HALL", y.matter(0, 2), 0);
+        y.rise(0);
+        y.sit(1, 0);
+        check.due("no in a new HALL", y.matter(0, 3), 0);
     }
 
     private static void fourDeals() {
@@ -630,6 +644,12 @@ public final class HallEdgeTest {
         x.feed(0x24242424, 0, 0, 0, 0);
         check.due("end(0)", x.end(0), 0);
         check.due("hall() of none", x.hall(), 0);
+        // "nap 5a", of which the letter is cut off: it is behind the N no more.
+        x.feed(0x6e617020, 0x35616161, 0, 0, 0);
+        x.end(5);
+        x.hall();
+        check.due("fault(0) at the new end", x.fault(0), 2);
+        check.due("fault(1) at the new end", x.fault(1), 5);
     }
 
     private static void endTooFar() {

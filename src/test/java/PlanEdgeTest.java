@@ -42,7 +42,9 @@ public final class PlanEdgeTest {
         check.sentence("T ACTS at most, one a MINUTE", PlanEdgeTest::actsAtMost);
         check.sentence("one who STANDS sits down on any seat that is free", PlanEdgeTest::freeSeats);
         check.sentence("one who STANDS speaks", PlanEdgeTest::whoStandsSpeaks);
+        check.sentence("a VOTE", PlanEdgeTest::votesInPlans);
         check.sentence("MATTERS die as told", PlanEdgeTest::dieAsTold);
+        check.sentence("all else as it is now", PlanEdgeTest::dealsInPlans);
         check.sentence("who is at the door stays there", PlanEdgeTest::doorStays);
         check.sentence("SEATS: places of CHAIRS that are whole, stools that were FOUND left out", PlanEdgeTest::seats);
         check.sentence("they are taken by those who SIT on them now", PlanEdgeTest::taken);
@@ -142,6 +144,83 @@ public final class PlanEdgeTest {
         NineChairs y = Check.sitting("chair c holds 1;man p strong 9;man q strong 9;matter x dies 99;wish p x 3;pass yes;");
         y.sit(0, 0);
         bestOf(y, 2, 3, 2);
+    }
+
+    /** p and r say yes, q no; one speaks, and all others SIT by then. */
+    private static void votesInPlans() {
+        String told = "chair c holds 2;chair d holds 1;man p strong 9;man q strong 9;man r strong 9;man s strong 9;man t strong 9 door;"
+                + "matter x dies 99;wish p x 5;wish q x -1;wish r x 1;wish t x 1;pass ";
+        String[] rules = {"yes=2 and no=1", "yes=2 and sits=3", "no=1 and stands=1 and sits=3", "yes=2 and no=1 and here=4"};
+        for (String rule : rules) {
+            NineChairs x = Check.sitting(told + rule + ";");
+            bestOf(x, 4, 0, 0);
+            bestOf(x, 5, 6, 5);
+        }
+        bestOf(Check.sitting(told + "here=5;"), 40, 0, 0);
+        bestOf(Check.sitting(told + "sits=4;"), 40, 0, 0);
+        bestOf(Check.sitting(told + "stands=2;"), 40, 6, 4);
+        // A VOTE that is LOST leads nowhere.
+        NineChairs y = Check.sitting("chair c holds 1;man p strong 9;matter x dies 99;wish p x 5;");
+        y.speak(0, 0);
+        bestOf(y, 2, 5, 2);
+        y.vote(0);
+        bestOf(y, 40, 0, 0);
+    }
+
+    private static void dealsInPlans() {
+        NineChairs x = Check.sitting("chair c holds 2;man p strong 9;man q strong 9;man r strong 9;matter w dies 99;matter x dies 99;matter y dies 99;matter z dies 99;"
+                + "wish r z 9;deal p w for q y;deal p z for r w;deal q x for p y;deal q z for r x;pass yes=2;");
+        x.sit(0, 0);
+        x.sit(1, 0);
+        bestOf(x, 3, 0, 0);
+        bestOf(x, 4, 9, 4);
+        x.speak(2, 1);
+        bestOf(x, 2, 0, 0);
+        bestOf(x, 3, 9, 3);
+        x.speak(2, 0);
+        bestOf(x, 1, 0, 0);
+        bestOf(x, 2, 9, 2);
+        x.speak(2, 2);
+        bestOf(x, 2, 9, 2);
+        // What is PASSED can't be spoken for: r must rise and speak before the VOTE on x.
+        NineChairs y = Check.sitting("chair c holds 2;man p strong 9;man q strong 9;man r strong 9;man s strong 9 door;matter x dies 99;matter y dies 99;"
+                + "wish r x 5;wish s y 3;deal p y for r x;");
+        y.speak(1, 0);
+        y.speak(1, 1);
+        y.sit(0, 0);
+        y.sit(2, 0);
+        bestOf(y, 1, 5, 1);
+        bestOf(y, 4, 5, 1);
+        bestOf(y, 5, 8, 5);
+        // A DEAL that is DUE can do harm, and none can undo it.
+        NineChairs z = Check.sitting("chair c holds 2;man p strong 9;man q strong 9;matter x dies 99;matter y dies 99;wish p x 4;deal q x for p y;pass sits=2 and yes=1;");
+        bestOf(z, 4, 4, 4);
+        z.speak(0, 1);
+        bestOf(z, 40, 0, 0);
+        mostInPlans();
+    }
+
+    /** As many MATTERS, DEALS and MEN as there can be: q speaks, p SITS and says yes by DEALS alone. */
+    private static void mostInPlans() {
+        String told = "chair c holds 2;man p strong 9;man q strong 9;man r strong 9;man s strong 9;man t strong 9;man u strong 9 door;"
+                + "matter w dies 99;matter x dies 99;matter y dies 99;matter z dies 99;wish u w 1;wish u x 2;wish u y 4;wish u z 8;pass yes;";
+        NineChairs x = Check.sitting(told + "deal p w for q x;deal p x for q w;deal p y for q z;deal p z for q y;");
+        x.sit(0, 0);
+        int[] worth = {0, 0, 0, 8, 12, 12, 12, 14, 15, 15};
+        int[] acts = {0, 0, 0, 3, 4, 4, 4, 7, 8, 8};
+        for (int t = 0; t < worth.length; t++) {
+            bestOf(x, t, worth[t], acts[t]);
+        }
+        bestOf(x, 40, 15, 8);
+        // Without the DEALS nothing of them is left.
+        Check.feed(x, told);
+        x.hall();
+        x.sit(0, 0);
+        bestOf(x, 40, 0, 0);
+        check.due("u comes in", x.enter(5), 2);
+        bestOf(x, 3, 8, 3);
+        bestOf(x, 4, 8, 3);
+        bestOf(x, 5, 12, 5);
     }
 
     private static void dieAsTold() {
