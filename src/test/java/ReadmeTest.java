@@ -1,9 +1,6 @@
-import java.io.ByteArrayOutputStream;
-import java.io.PrintStream;
+import java.io.File;
 import java.lang.reflect.Method;
 import java.lang.reflect.Modifier;
-import java.net.URL;
-import java.net.URLClassLoader;
 import java.nio.charset.StandardCharsets;
 import java.nio.file.Files;
 import java.nio.file.Path;
@@ -11,7 +8,6 @@ import java.util.Arrays;
 import java.util.List;
 import java.util.stream.Collectors;
 import java.util.stream.Stream;
-import javax.tools.ToolProvider;
 
 /** What README.md says: its example runs and prints what stands there; all calls and tests are named. */
 public final class ReadmeTest {
@@ -37,17 +33,14 @@ public final class ReadmeTest {
     private static void example(String source, String output) throws Exception {
         Path home = Files.createTempDirectory("readme");
         Path file = Files.writeString(home.resolve("Example.java"), source);
-        int compiled = ToolProvider.getSystemJavaCompiler().run(null, null, null, "-Xlint:all", "-cp",
-                System.getProperty("java.class.path"), "-d", home.toString(), file.toString());
-        check.due("compiling the example", compiled, 0);
-        if (compiled == 0) {
-            List<String> got = printed(home).lines().collect(Collectors.toList());
-            List<String> want = output.lines().collect(Collectors.toList());
-            check.due("lines of the example", got.size(), want.size());
-            for (int i = 0; i < got.size() && i < want.size(); i++) {
-                check.due("«" + got.get(i) + "», where README.md has «" + want.get(i) + "»",
-                        got.get(i).equals(want.get(i)), true);
-            }
+        String with = System.getProperty("java.class.path") + File.pathSeparator + home;
+        run("javac", "-Xlint:all", "-Werror", "-cp", with, "-d", home.toString(), file.toString());
+        List<String> got = run("java", "-cp", with, "Example").lines().collect(Collectors.toList());
+        List<String> want = output.lines().collect(Collectors.toList());
+        check.due("lines of the example", got.size(), want.size());
+        for (int i = 0; i < got.size() && i < want.size(); i++) {
+            check.due("«" + got.get(i) + "», where README.md has «" + want.get(i) + "»",
+                    got.get(i).equals(want.get(i)), true);
         }
         for (String name : home.toFile().list()) {
             Files.delete(home.resolve(name));
@@ -55,17 +48,12 @@ public final class ReadmeTest {
         Files.delete(home);
     }
 
-    private static String printed(Path home) throws Exception {
-        PrintStream before = System.out;
-        ByteArrayOutputStream bytes = new ByteArrayOutputStream();
-        try (URLClassLoader loader = new URLClassLoader(new URL[] {home.toUri().toURL()})) {
-            Method main = loader.loadClass("Example").getMethod("main", String[].class);
-            System.setOut(new PrintStream(bytes, true, StandardCharsets.US_ASCII));
-            main.invoke(null, (Object) new String[0]);
-        } finally {
-            System.setOut(before);
-        }
-        return bytes.toString(StandardCharsets.US_ASCII);
+    /** What the command prints, its complaints left out; it must end with 0. */
+    private static String run(String... command) throws Exception {
+        Process process = new ProcessBuilder(command).redirectError(ProcessBuilder.Redirect.INHERIT).start();
+        String said = new String(process.getInputStream().readAllBytes(), StandardCharsets.UTF_8);
+        check.due(command[0] + " for the example", process.waitFor(), 0);
+        return said;
     }
 
     private static void calls(String page) {
